@@ -371,7 +371,7 @@ public final class FourierMotzkin {
         return best;
     }
 
-    /** Counts down because a denominator is at most 256, and so no answer can be 0. */
+    /** No denominator is over 256, so counting down is quick enough, and the answer is never 0. */
     private static int commonDivisor(int top, int bottom) {
         for (int divisor = bottom; divisor > 1; divisor--) {
             if (top % divisor == 0 && bottom % divisor == 0) {
