@@ -26,7 +26,7 @@ final class PromiseTest {
     }
 
     private static int slope(int a, int b, int c) {
-        return 81 * (a + 4) + 9 * (b + 4) + (c + 4);
+        return Bodies.slope(a, b, c);
     }
 
     private static void due(String what, long got, long want) {
@@ -41,24 +41,6 @@ final class PromiseTest {
     private static void dueLeast(String what, FourierMotzkin body, int axis, long top, long bottom) {
         due(what + " leastTop(" + axis + ")", body.leastTop(axis), top);
         due(what + " leastBottom(" + axis + ")", body.leastBottom(axis), bottom);
-    }
-
-    /** x = y = z = 1/2, from three planes and their backs. */
-    private static FourierMotzkin halfPoint() {
-        FourierMotzkin body = new FourierMotzkin();
-        body.add(slope(2, 0, 0), 1);
-        body.add(slope(-2, 0, 0), -1);
-        body.add(slope(0, 2, 0), 1);
-        body.add(slope(0, -2, 0), -1);
-        body.add(slope(0, 0, 2), 1);
-        body.add(slope(0, 0, -2), -1);
-        return body;
-    }
-
-    private static FourierMotzkin nothing() {
-        FourierMotzkin body = new FourierMotzkin();
-        body.add(slope(1, 0, 0), -11);
-        return body;
     }
 
     private static void newObject() {
@@ -191,7 +173,7 @@ final class PromiseTest {
         due("6: 0 <= -1", body.empty(), 1);
         body.move(1, 1);
         due("6: 0 <= 1", body.empty(), 0);
-        due("6: no whole points, yet some", halfPoint().empty(), 0);
+        due("6: no whole points, yet some", Bodies.halfPoint().empty(), 0);
     }
 
     private static void mostAndLeast() {
@@ -228,7 +210,7 @@ final class PromiseTest {
 
     private static void reachOfNothing() {
         int[] wrong = {-1, 3, FAR[0], FAR[1], FAR[2], FAR[3]};
-        FourierMotzkin body = nothing();
+        FourierMotzkin body = Bodies.nothing();
         for (int axis = 0; axis < 3; axis++) {
             dueMost("7, 8: empty", body, axis, -2000000, 0);
             dueLeast("9, 10: empty", body, axis, -2000000, 0);
@@ -264,10 +246,10 @@ final class PromiseTest {
         due("11: not so tight", body.follows(slope(1, 2, 0), 2), 0);
         due("11: y <= 1", body.follows(slope(0, 1, 0), 1), 1);
         due("11: not y <= 0", body.follows(slope(0, 1, 0), 0), 0);
-        due("11: empty", nothing().follows(728, -1000), 1);
-        due("11: empty and 0 <= -1", nothing().follows(364, -1), 1);
-        due("11: empty, wrong slope", nothing().follows(729, 0), -1);
-        due("11: empty, wrong d", nothing().follows(0, 1001), -2);
+        due("11: empty", Bodies.nothing().follows(728, -1000), 1);
+        due("11: empty and 0 <= -1", Bodies.nothing().follows(364, -1), 1);
+        due("11: empty, wrong slope", Bodies.nothing().follows(729, 0), -1);
+        due("11: empty, wrong d", Bodies.nothing().follows(0, 1001), -2);
     }
 
     private static void support() {
@@ -288,9 +270,9 @@ final class PromiseTest {
         body.remove(0);
         body.add(slope(1, 1, 1), -30);
         due("12: the least", body.support(slope(4, 4, 4)), -120);
-        due("12: empty", nothing().support(0), -2000);
-        due("12: empty, no slope", nothing().support(364), -2000);
-        due("12: slope before empty", nothing().support(729), -1000);
+        due("12: empty", Bodies.nothing().support(0), -2000);
+        due("12: empty, no slope", Bodies.nothing().support(364), -2000);
+        due("12: slope before empty", Bodies.nothing().support(729), -1000);
     }
 
     private static void redundant() {
@@ -349,9 +331,9 @@ final class PromiseTest {
         due("14: on the bound", body.has(1, 1, 1, 6), 1);
         due("14: beyond it", body.has(1, 1, 1, 5), 0);
         due("14: within it", body.has(1, 1, 1, 7), 1);
-        due("14: in none", nothing().has(-10, 0, 0, 1), 0);
-        due("14: the half point", halfPoint().has(5, 5, 5, 10), 1);
-        due("14: beside it", halfPoint().has(5, 5, 6, 10), 0);
+        due("14: in none", Bodies.nothing().has(-10, 0, 0, 1), 0);
+        due("14: the half point", Bodies.halfPoint().has(5, 5, 5, 10), 1);
+        due("14: beside it", Bodies.halfPoint().has(5, 5, 6, 10), 0);
     }
 
     private static void shadow() {
@@ -381,10 +363,10 @@ final class PromiseTest {
             }
         }
         shadowOfSomePoint();
-        due("15: of none", nothing().shadow(0, 0, 0, 1), 0);
-        due("15: of none, wrong", nothing().shadow(0, 0, 401, 1), -3);
-        due("15: the half point", halfPoint().shadow(1, 10, 10, 20), 1);
-        due("15: beside it", halfPoint().shadow(1, 10, 11, 20), 0);
+        due("15: of none", Bodies.nothing().shadow(0, 0, 0, 1), 0);
+        due("15: of none, wrong", Bodies.nothing().shadow(0, 0, 401, 1), -3);
+        due("15: the half point", Bodies.halfPoint().shadow(1, 10, 10, 20), 1);
+        due("15: beside it", Bodies.halfPoint().shadow(1, 10, 11, 20), 0);
         FourierMotzkin none = new FourierMotzkin();
         none.add(slope(0, 0, 0), -1);
         due("15: 0 <= -1", none.shadow(2, 0, 0, 1), 0);
@@ -426,14 +408,14 @@ final class PromiseTest {
         due("16: z is a half, y", body.shadowGrid(0), 0);
         due("16: z is a half, x", body.shadowGrid(1), 0);
         due("16: z is a half, not asked", body.shadowGrid(2), 11 * 3);
-        due("16: of none", nothing().shadowGrid(2), 0);
-        due("16: axis before empty", nothing().shadowGrid(3), -1);
+        due("16: of none", Bodies.nothing().shadowGrid(2), 0);
+        due("16: axis before empty", Bodies.nothing().shadowGrid(3), -1);
         FourierMotzkin skew = new FourierMotzkin();
         skew.add(slope(1, -1, 1), 3);
         skew.add(slope(2, 3, -4), -5);
         int found = 0;
-        for (int p = -11; p <= 11; p++) {
-            for (int q = -11; q <= 11; q++) {
+        for (int p = -10; p <= 10; p++) {
+            for (int q = -10; q <= 10; q++) {
                 found += skew.shadow(1, p, q, 1);
             }
         }
@@ -441,9 +423,9 @@ final class PromiseTest {
     }
 
     private static void single() {
-        due("17: the half point", halfPoint().single(), 1);
-        due("17: none", nothing().single(), 0);
-        FourierMotzkin body = halfPoint();
+        due("17: the half point", Bodies.halfPoint().single(), 1);
+        due("17: none", Bodies.nothing().single(), 0);
+        FourierMotzkin body = Bodies.halfPoint();
         for (int bound = 0; bound < 6; bound++) {
             int before = body.move(bound, 2);
             due("17: a line", body.single(), 0);
@@ -475,7 +457,7 @@ final class PromiseTest {
     }
 
     private static void refusedCallsChangeNothing() {
-        FourierMotzkin body = halfPoint();
+        FourierMotzkin body = Bodies.halfPoint();
         body.add(slope(1, 1, 1), 2);
         long before = answers(body);
         body.add(0, 0);
