@@ -100,6 +100,7 @@ final class NothingChangesTest {
         int[] coordinates = {-401, 401, LEAST, MOST};
         for (int far : coordinates) {
             calls.put("has(" + far + ", 0, 0, 1)", body -> body.has(far, 0, 0, 1));
+            calls.put("has(0, " + far + ", 0, 1)", body -> body.has(0, far, 0, 1));
             calls.put("has(0, 0, " + far + ", 1)", body -> body.has(0, 0, far, 1));
             calls.put("shadow(2, " + far + ", 0, 1)", body -> body.shadow(2, far, 0, 1));
             calls.put("shadow(2, 0, " + far + ", 1)", body -> body.shadow(2, 0, far, 1));
